@@ -1,6 +1,7 @@
 /** One method for each promise of the document, with answers worked out by hand. */
 public final class PromisesTest {
-    private static final int[] NO_VERTEX = {-1, 10, 11, 32, 42, -32, Integer.MIN_VALUE, Integer.MAX_VALUE};
+    // 33, 41 and -23 are 1, 9 and 9 again where a shift takes them by their last five bits.
+    private static final int[] NO_VERTEX = {-1, 10, 11, 33, 41, -23, Integer.MIN_VALUE, Integer.MAX_VALUE};
     private static final int[] NO_WEIGHT = {-1, 10, -9, 100, Integer.MIN_VALUE, Integer.MAX_VALUE};
     private static final Check CHECK = new Check();
 
@@ -183,6 +184,11 @@ public final class PromisesTest {
         CHECK.due("above by the second way", twoWays.above(0, 5), true);
         twoWays.edge(0, 3, false);
         CHECK.due("above by no way", twoWays.above(0, 5), false);
+
+        PathCoverDag late = only(0);
+        link(late, 1, 2);
+        link(late, 0, 1);
+        CHECK.due("above by edges added while all are off", late.above(0, 2), true);
 
         // Added from the top down and from the bottom up, each is above all before.
         PathCoverDag down = new PathCoverDag();
