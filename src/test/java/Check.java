@@ -1,5 +1,8 @@
 /** Counts the answers that are not as due, for the tests of the project. */
 final class Check {
+    // One fault can make thousands of answers wrong: the first ones tell enough.
+    private static final int MOST_SHOWN = 100;
+
     private int wrong = 0;
     private int asked = 0;
 
@@ -7,7 +10,9 @@ final class Check {
         asked++;
         if (got != want) {
             wrong++;
-            System.out.println(call + " answered " + got + ", due is " + want);
+            if (wrong <= MOST_SHOWN) {
+                System.out.println(call + " answered " + got + ", due is " + want);
+            }
         }
     }
 

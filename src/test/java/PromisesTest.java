@@ -60,8 +60,8 @@ public final class PromisesTest {
         answersAsNew("edges taken away", x);
 
         // Being above without an edge is no edge.
-        link(x, 0, 1);
-        link(x, 1, 2);
+        Graphs.link(x, 0, 1);
+        Graphs.link(x, 1, 2);
         CHECK.due("edge 0 2 not there", x.edge(0, 2, false), 0);
         CHECK.due("0 1 still there", x.edge(0, 1, true), 1);
         CHECK.due("1 2 still there", x.edge(1, 2, true), 1);
@@ -78,7 +78,7 @@ public final class PromisesTest {
 
     private static void promise2WrongEdges() {
         PathCoverDag none = new PathCoverDag();
-        PathCoverDag full = full();
+        PathCoverDag full = Graphs.full();
         for (int bad : NO_VERTEX) {
             for (int good : new int[] {0, 5, 9}) {
                 wrongEdge(none, bad, good, true);
@@ -119,7 +119,7 @@ public final class PromisesTest {
             CHECK.due("turn off " + bad + " again", x.turn(bad, false), PathCoverDag.BAD_VERTEX);
         }
         answersAsNew("after wrong turns", x);
-        PathCoverDag off = only(0);
+        PathCoverDag off = Graphs.only(0);
         for (int bad : NO_VERTEX) {
             CHECK.due("all off, turn on " + bad, off.turn(bad, true), PathCoverDag.BAD_VERTEX);
         }
@@ -156,9 +156,9 @@ public final class PromisesTest {
 
     private static void promise5Above() {
         PathCoverDag x = new PathCoverDag();
-        link(x, 0, 1);
-        link(x, 1, 2);
-        link(x, 2, 9);
+        Graphs.link(x, 0, 1);
+        Graphs.link(x, 1, 2);
+        Graphs.link(x, 2, 9);
         CHECK.due("above 0 1", x.above(0, 1), true);
         CHECK.due("above 0 2", x.above(0, 2), true);
         CHECK.due("above 0 9", x.above(0, 9), true);
@@ -176,26 +176,26 @@ public final class PromisesTest {
             CHECK.due("above " + bad + " " + bad, x.above(bad, bad), false);
         }
         PathCoverDag twoWays = new PathCoverDag();
-        link(twoWays, 0, 1);
-        link(twoWays, 1, 5);
-        link(twoWays, 0, 3);
-        link(twoWays, 3, 5);
+        Graphs.link(twoWays, 0, 1);
+        Graphs.link(twoWays, 1, 5);
+        Graphs.link(twoWays, 0, 3);
+        Graphs.link(twoWays, 3, 5);
         twoWays.edge(1, 5, false);
         CHECK.due("above by the second way", twoWays.above(0, 5), true);
         twoWays.edge(0, 3, false);
         CHECK.due("above by no way", twoWays.above(0, 5), false);
 
-        PathCoverDag late = only(0);
-        link(late, 1, 2);
-        link(late, 0, 1);
+        PathCoverDag late = Graphs.only(0);
+        Graphs.link(late, 1, 2);
+        Graphs.link(late, 0, 1);
         CHECK.due("above by edges added while all are off", late.above(0, 2), true);
 
         // Added from the top down and from the bottom up, each is above all before.
         PathCoverDag down = new PathCoverDag();
         for (int v = 8; v >= 0; v--) {
-            link(down, v, v + 1);
+            Graphs.link(down, v, v + 1);
         }
-        PathCoverDag up = line();
+        PathCoverDag up = Graphs.line();
         for (int a = 0; a <= 9; a++) {
             for (int b = 0; b <= 9; b++) {
                 CHECK.due("line down above " + a + " " + b, down.above(a, b), a < b);
@@ -206,7 +206,7 @@ public final class PromisesTest {
 
     private static void promise6Chains() {
         // Two chains that share vertex 2 cover the crossing.
-        PathCoverDag x = crossing();
+        PathCoverDag x = Graphs.crossing();
         CHECK.due("crossing chains", x.chains(), 2);
         x.turn(2, false);
         CHECK.due("crossing without its middle", x.chains(), 2);
@@ -214,51 +214,51 @@ public final class PromisesTest {
         CHECK.due("crossing and one alone", x.chains(), 3);
         x.turn(0, false);
         CHECK.due("1 below 3 and 4, 5 alone", x.chains(), 3);
-        CHECK.due("line", line().chains(), 1);
-        CHECK.due("line with gaps", gappedLine().chains(), 1);
+        CHECK.due("line", Graphs.line().chains(), 1);
+        CHECK.due("line with gaps", Graphs.gappedLine().chains(), 1);
         // Taking for 0 the first vertex above it would leave 1 without one.
-        PathCoverDag swap = only(0b1111);
-        link(swap, 0, 2);
-        link(swap, 0, 3);
-        link(swap, 1, 2);
+        PathCoverDag swap = Graphs.only(0b1111);
+        Graphs.link(swap, 0, 2);
+        Graphs.link(swap, 0, 3);
+        Graphs.link(swap, 1, 2);
         CHECK.due("0 has to leave 2 to 1", swap.chains(), 2);
     }
 
     private static void promise7Width() {
-        PathCoverDag x = crossing();
+        PathCoverDag x = Graphs.crossing();
         CHECK.due("crossing", x.width(), 2);
         x.turn(2, false);
         CHECK.due("crossing without its middle", x.width(), 2);
         x.turn(0, false);
         x.turn(4, false);
         CHECK.due("1 below 3", x.width(), 1);
-        CHECK.due("line", line().width(), 1);
-        CHECK.due("line with gaps", gappedLine().width(), 1);
+        CHECK.due("line", Graphs.line().width(), 1);
+        CHECK.due("line with gaps", Graphs.gappedLine().width(), 1);
         PathCoverDag star = new PathCoverDag();
         for (int v = 1; v <= 9; v++) {
-            link(star, 0, v);
+            Graphs.link(star, 0, v);
         }
         CHECK.due("star", star.width(), 9);
     }
 
     private static void promise8Antichain() {
-        PathCoverDag x = crossing();
+        PathCoverDag x = Graphs.crossing();
         CHECK.due("smaller of {0, 1} and {3, 4}", x.antichain(), 0b00011);
         x.turn(0, false);
         CHECK.due("only {3, 4}", x.antichain(), 0b11000);
         x.turn(5, true);
         CHECK.due("more before smaller", x.antichain(), 0b111000);
-        CHECK.due("line", line().antichain(), 1);
-        PathCoverDag gapped = gappedLine();
+        CHECK.due("line", Graphs.line().antichain(), 1);
+        PathCoverDag gapped = Graphs.gappedLine();
         gapped.turn(0, false);
         CHECK.due("line with gaps", gapped.antichain(), 1 << 4);
         PathCoverDag star = new PathCoverDag();
         for (int v = 1; v <= 9; v++) {
-            link(star, 0, v);
+            Graphs.link(star, 0, v);
         }
         CHECK.due("star", star.antichain(), 1022);
         // Weights play no part.
-        PathCoverDag weighed = crossing();
+        PathCoverDag weighed = Graphs.crossing();
         weighed.weight(3, 9);
         weighed.weight(4, 9);
         CHECK.due("weights play no part", weighed.antichain(), 0b00011);
@@ -266,27 +266,27 @@ public final class PromisesTest {
 
     private static void promise9Paths() {
         // Vertex 2 can be in one path alone.
-        PathCoverDag x = crossing();
+        PathCoverDag x = Graphs.crossing();
         CHECK.due("crossing", x.paths(), 3);
         x.turn(2, false);
         CHECK.due("no path over a vertex that is off", x.paths(), 4);
-        link(x, 0, 3);
+        Graphs.link(x, 0, 3);
         CHECK.due("edge past the vertex that is off", x.paths(), 3);
         x.turn(2, true);
         CHECK.due("0 to 3 and 1 to 2 to 4", x.paths(), 2);
-        CHECK.due("line", line().paths(), 1);
-        CHECK.due("line with gaps", gappedLine().paths(), 3);
-        PathCoverDag swap = only(0b1111);
-        link(swap, 0, 2);
-        link(swap, 0, 3);
-        link(swap, 1, 2);
+        CHECK.due("line", Graphs.line().paths(), 1);
+        CHECK.due("line with gaps", Graphs.gappedLine().paths(), 3);
+        PathCoverDag swap = Graphs.only(0b1111);
+        Graphs.link(swap, 0, 2);
+        Graphs.link(swap, 0, 3);
+        Graphs.link(swap, 1, 2);
         CHECK.due("0 has to leave 2 to 1", swap.paths(), 2);
     }
 
     private static void promise10Heaviest() {
-        PathCoverDag x = only(0b111);
-        link(x, 0, 1);
-        link(x, 0, 2);
+        PathCoverDag x = Graphs.only(0b111);
+        Graphs.link(x, 0, 1);
+        Graphs.link(x, 0, 2);
         x.weight(0, 9);
         x.weight(1, 2);
         x.weight(2, 3);
@@ -305,36 +305,36 @@ public final class PromisesTest {
         }
         CHECK.due("all weights 0", nothing.heaviest(), 0);
         CHECK.due("all weights 9", most.heaviest(), 90);
-        PathCoverDag gapped = gappedLine();
+        PathCoverDag gapped = Graphs.gappedLine();
         gapped.weight(4, 5);
         CHECK.due("line with gaps", gapped.heaviest(), 5);
     }
 
     private static void promise11Height() {
-        CHECK.due("crossing", crossing().height(), 3);
-        CHECK.due("line", line().height(), 10);
-        CHECK.due("line with gaps", gappedLine().height(), 3);
+        CHECK.due("crossing", Graphs.crossing().height(), 3);
+        CHECK.due("line", Graphs.line().height(), 10);
+        CHECK.due("line with gaps", Graphs.gappedLine().height(), 3);
         PathCoverDag x = new PathCoverDag();
-        link(x, 0, 9);
-        link(x, 2, 4);
-        link(x, 4, 8);
+        Graphs.link(x, 0, 9);
+        Graphs.link(x, 2, 4);
+        Graphs.link(x, 4, 8);
         CHECK.due("longest of two", x.height(), 3);
         x.turn(4, false);
         CHECK.due("a chain goes over what is off", x.height(), 2);
         x.turn(8, false);
         x.turn(9, false);
         CHECK.due("no chain ends in what is off", x.height(), 1);
-        PathCoverDag light = line();
+        PathCoverDag light = Graphs.line();
         light.weight(3, 0);
         light.weight(4, 9);
         CHECK.due("weights play no part", light.height(), 10);
     }
 
     private static void promise12HeaviestChain() {
-        PathCoverDag x = only(0b11111);
-        link(x, 0, 1);
-        link(x, 1, 2);
-        link(x, 3, 4);
+        PathCoverDag x = Graphs.only(0b11111);
+        Graphs.link(x, 0, 1);
+        Graphs.link(x, 1, 2);
+        Graphs.link(x, 3, 4);
         x.weight(3, 2);
         x.weight(4, 2);
         CHECK.due("short and heavy", x.heaviestChain(), 4);
@@ -344,18 +344,18 @@ public final class PromisesTest {
         CHECK.due("off is not weighed", x.heaviestChain(), 4);
         x.weight(0, 9);
         CHECK.due("over what is off", x.heaviestChain(), 10);
-        PathCoverDag nothing = line();
-        PathCoverDag most = line();
+        PathCoverDag nothing = Graphs.line();
+        PathCoverDag most = Graphs.line();
         for (int v = 0; v <= 9; v++) {
             nothing.weight(v, 0);
             most.weight(v, 9);
         }
         CHECK.due("all weights 0", nothing.heaviestChain(), 0);
         CHECK.due("all weights 9", most.heaviestChain(), 90);
-        PathCoverDag choice = only(0b1111);
-        link(choice, 0, 1);
-        link(choice, 0, 2);
-        link(choice, 2, 3);
+        PathCoverDag choice = Graphs.only(0b1111);
+        Graphs.link(choice, 0, 1);
+        Graphs.link(choice, 0, 2);
+        Graphs.link(choice, 2, 3);
         choice.weight(1, 5);
         CHECK.due("the heavier branch", choice.heaviestChain(), 6);
         choice.weight(3, 6);
@@ -363,34 +363,34 @@ public final class PromisesTest {
     }
 
     private static void promise13Antichains() {
-        PathCoverDag x = only(0b11);
+        PathCoverDag x = Graphs.only(0b11);
         CHECK.due("two apart", x.antichains(), 4);
-        link(x, 0, 1);
+        Graphs.link(x, 0, 1);
         CHECK.due("one above the other", x.antichains(), 3);
-        CHECK.due("one alone", only(1 << 9).antichains(), 2);
-        CHECK.due("line", line().antichains(), 11);
-        CHECK.due("line with gaps", gappedLine().antichains(), 4);
-        CHECK.due("crossing", crossing().antichains(), 8);
+        CHECK.due("one alone", Graphs.only(1 << 9).antichains(), 2);
+        CHECK.due("line", Graphs.line().antichains(), 11);
+        CHECK.due("line with gaps", Graphs.gappedLine().antichains(), 4);
+        CHECK.due("crossing", Graphs.crossing().antichains(), 8);
     }
 
     private static void promise14Apart() {
-        PathCoverDag x = only(0b111);
+        PathCoverDag x = Graphs.only(0b111);
         CHECK.due("three apart", x.apart(), 3);
-        link(x, 0, 1);
+        Graphs.link(x, 0, 1);
         CHECK.due("0 below 1", x.apart(), 2);
-        link(x, 1, 2);
+        Graphs.link(x, 1, 2);
         CHECK.due("0 below 1 below 2", x.apart(), 0);
         x.turn(1, false);
         CHECK.due("2 above 0 over what is off", x.apart(), 0);
         x.turn(9, true);
         CHECK.due("9 apart from both", x.apart(), 2);
-        CHECK.due("one alone", only(1 << 9).apart(), 0);
-        CHECK.due("line with gaps", gappedLine().apart(), 0);
-        CHECK.due("crossing", crossing().apart(), 2);
+        CHECK.due("one alone", Graphs.only(1 << 9).apart(), 0);
+        CHECK.due("line with gaps", Graphs.gappedLine().apart(), 0);
+        CHECK.due("crossing", Graphs.crossing().apart(), 2);
     }
 
     private static void promise15OrderAndLimits() {
-        PathCoverDag x = line();
+        PathCoverDag x = Graphs.line();
         for (int badVertex : NO_VERTEX) {
             for (int badWeight : NO_WEIGHT) {
                 CHECK.due("weight " + badVertex + " " + badWeight,
@@ -411,32 +411,32 @@ public final class PromisesTest {
     }
 
     private static void allVerticesOff() {
-        PathCoverDag x = line();
+        PathCoverDag x = Graphs.line();
         for (int v = 0; v <= 9; v++) {
             x.weight(v, 9);
             x.turn(v, false);
         }
-        answers("all off", x, new int[] {0, 0, 0, 0, 0, 0, 0, 1, 0});
+        Questions.due(CHECK, "all off", x, 0, 0, 0, 0, 0, 0, 0, 1, 0);
         for (int v = 0; v <= 9; v++) {
             x.turn(v, true);
             x.weight(v, 1);
         }
-        answers("all on again", x, new int[] {1, 1, 1, 1, 1, 10, 10, 11, 0});
+        Questions.due(CHECK, "all on again", x, 1, 1, 1, 1, 1, 10, 10, 11, 0);
     }
 
     private static void fullGraph() {
-        answersAsFull("full", full());
+        answersAsFull("full", Graphs.full());
     }
 
     private static void questionsChangeNothing() {
-        PathCoverDag x = crossing();
+        PathCoverDag x = Graphs.crossing();
         x.turn(2, false);
         x.weight(4, 6);
         int[] due = {2, 2, 0b11, 4, 7, 2, 7, 7, 2};
         for (int first = 0; first < due.length; first++) {
             for (int second = 0; second < due.length; second++) {
-                CHECK.due("question " + first + " before " + second, ask(x, first), due[first]);
-                CHECK.due("question " + second + " after " + first, ask(x, second), due[second]);
+                CHECK.due("question " + first + " before " + second, Questions.ask(x, first), due[first]);
+                CHECK.due("question " + second + " after " + first, Questions.ask(x, second), due[second]);
             }
             CHECK.due("above after question " + first, x.above(0, 4), true);
         }
@@ -457,81 +457,11 @@ public final class PromisesTest {
         CHECK.due("own change kept", x.heaviest(), 16);
     }
 
-    /** In the order chains, width, antichain, paths, heaviest, height, heaviestChain, antichains, apart. */
-    private static int ask(PathCoverDag x, int question) {
-        switch (question) {
-            case 0: return x.chains();
-            case 1: return x.width();
-            case 2: return x.antichain();
-            case 3: return x.paths();
-            case 4: return x.heaviest();
-            case 5: return x.height();
-            case 6: return x.heaviestChain();
-            case 7: return x.antichains();
-            default: return x.apart();
-        }
-    }
-
-    private static void answers(String name, PathCoverDag x, int[] due) {
-        for (int question = 0; question < due.length; question++) {
-            CHECK.due(name + ", question " + question, ask(x, question), due[question]);
-        }
-    }
-
     private static void answersAsNew(String name, PathCoverDag x) {
-        answers(name, x, new int[] {10, 10, 1023, 10, 10, 1, 1, 1024, 45});
+        Questions.due(CHECK, name, x, 10, 10, 1023, 10, 10, 1, 1, 1024, 45);
     }
 
     private static void answersAsFull(String name, PathCoverDag x) {
-        answers(name, x, new int[] {1, 1, 1, 1, 1, 10, 10, 11, 0});
-    }
-
-    private static void link(PathCoverDag x, int a, int b) {
-        CHECK.due("link " + a + " " + b, x.edge(a, b, true), 0);
-    }
-
-    private static PathCoverDag only(int mask) {
-        PathCoverDag x = new PathCoverDag();
-        for (int v = 0; v <= 9; v++) {
-            x.turn(v, (mask >> v & 1) != 0);
-        }
-        return x;
-    }
-
-    /** 0 and 1 below 2, and 2 below 3 and 4; the others are off. */
-    private static PathCoverDag crossing() {
-        PathCoverDag x = only(0b11111);
-        link(x, 0, 2);
-        link(x, 1, 2);
-        link(x, 2, 3);
-        link(x, 2, 4);
-        return x;
-    }
-
-    private static PathCoverDag line() {
-        PathCoverDag x = new PathCoverDag();
-        for (int v = 0; v < 9; v++) {
-            link(x, v, v + 1);
-        }
-        return x;
-    }
-
-    /** The line from 0 to 9 with only 0, 4 and 9 on. */
-    private static PathCoverDag gappedLine() {
-        PathCoverDag x = line();
-        for (int v = 0; v <= 9; v++) {
-            x.turn(v, v == 0 || v == 4 || v == 9);
-        }
-        return x;
-    }
-
-    private static PathCoverDag full() {
-        PathCoverDag x = new PathCoverDag();
-        for (int a = 0; a <= 9; a++) {
-            for (int b = a + 1; b <= 9; b++) {
-                link(x, a, b);
-            }
-        }
-        return x;
+        Questions.due(CHECK, name, x, 1, 1, 1, 1, 1, 10, 10, 11, 0);
     }
 }

@@ -1,7 +1,5 @@
 /** Long runs of mixed calls, right and wrong ones, each answer compared with SlowDag's. */
 public final class SlowDagTest {
-    private static final String[] QUESTIONS = {"chains", "width", "antichain", "paths", "heaviest",
-        "height", "heaviestChain", "antichains", "apart"};
     private static final int RUNS = 200;
     private static final int ROUNDS = 8;
     private static final Check CHECK = new Check();
@@ -23,16 +21,12 @@ public final class SlowDagTest {
         int oddsOfEdge = 1 + run % 9;
         int oddsOfOn = 1 + run / 9 % 9;
         for (int round = 0; round < ROUNDS; round++) {
-            String name = "run " + run + " round " + round + " ";
+            String name = "run " + run + " round " + round;
             int changes = 1 + below(21);
             for (int i = 0; i < changes; i++) {
                 change(name, x, slow, oddsOfEdge, oddsOfOn);
             }
-            int[] got = answers(x);
-            int[] due = slow.answers();
-            for (int q = 0; q < got.length; q++) {
-                CHECK.due(name + QUESTIONS[q], got[q], due[q]);
-            }
+            Questions.due(CHECK, name, x, slow.answers());
         }
         for (int a = -2; a < 12; a++) {
             for (int b = -2; b < 12; b++) {
@@ -50,19 +44,14 @@ public final class SlowDagTest {
             int low = below(8) == 0 ? a : Math.min(a, b);
             int high = low == a ? b : a;
             boolean there = below(10) < oddsOfEdge;
-            CHECK.due(name + "edge " + low + " " + high + " " + there,
+            CHECK.due(name + ": edge " + low + " " + high + " " + there,
                     x.edge(low, high, there), slow.edge(low, high, there));
         } else if (kind < 8) {
             boolean on = below(10) < oddsOfOn;
-            CHECK.due(name + "turn " + a + " " + on, x.turn(a, on), slow.turn(a, on));
+            CHECK.due(name + ": turn " + a + " " + on, x.turn(a, on), slow.turn(a, on));
         } else {
-            CHECK.due(name + "weight " + a + " " + b, x.weight(a, b), slow.weight(a, b));
+            CHECK.due(name + ": weight " + a + " " + b, x.weight(a, b), slow.weight(a, b));
         }
-    }
-
-    private static int[] answers(PathCoverDag x) {
-        return new int[] {x.chains(), x.width(), x.antichain(), x.paths(), x.heaviest(),
-            x.height(), x.heaviestChain(), x.antichains(), x.apart()};
     }
 
     private static int below(int bound) {
